@@ -1,0 +1,65 @@
+/** Compares answers with those that are due, and ends the test with exit code 1 if one was not. */
+final class Due {
+    private int wrong = 0;
+    private int asked = 0;
+
+    void is(String call, long got, long want) {
+        asked++;
+        if (got != want) {
+            wrong++;
+            if (wrong <= 50) {
+                System.out.println(call + " answered " + got + ", due is " + want);
+            }
+        }
+    }
+
+    void is(String call, boolean got, boolean want) {
+        is(call, got ? 1 : 0, want ? 1 : 0);
+    }
+
+    /** Banks or cars: all that can be asked of number k, from what 0 on. */
+    void banksAre(GasYard yard, int k, int... wants) {
+        for (int what = 0; what < wants.length; what++) {
+            is("banks(" + k + ", " + what + ")", yard.banks(k, what), wants[what]);
+        }
+    }
+
+    void carsAre(GasYard yard, int k, int... wants) {
+        for (int what = 0; what < wants.length; what++) {
+            is("cars(" + k + ", " + what + ")", yard.cars(k, what), wants[what]);
+        }
+    }
+
+    boolean anyWrong() {
+        return wrong != 0;
+    }
+
+    void end() {
+        System.out.println(wrong == 0 ? asked + " answers as due" : wrong + " of " + asked + " answers not as due");
+        if (wrong != 0) {
+            System.exit(1);
+        }
+    }
+
+    /** Puts a text on an empty tape: whole feeds, then the end. */
+    static void feed(GasYard yard, String text) {
+        for (int from = 0; from < text.length(); from += 20) {
+            yard.feed(number(text, from), number(text, from + 4), number(text, from + 8),
+                    number(text, from + 12), number(text, from + 16));
+        }
+        yard.end(text.length());
+    }
+
+    static int book(GasYard yard, String text) {
+        feed(yard, text);
+        return yard.book();
+    }
+
+    private static int number(String text, int from) {
+        int value = 0;
+        for (int at = from; at < from + 4; at++) {
+            value = value << 8 | (at < text.length() ? text.charAt(at) & 255 : 0);
+        }
+        return value;
+    }
+}
