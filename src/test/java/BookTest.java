@@ -100,6 +100,11 @@ public final class BookTest {
         fault("  ;", 2, 0);
         fault("warms 1", 0, 0);
         fault("war 1", 0, 0);
+        fault("farm 1", 0, 0);
+        fault("wart 1", 0, 0);
+        fault("glow 1 1", 0, 0);
+        fault("slow", 0, 0);
+        fault("flowflow 1 1", 0, 0);
         fault("Warm 1", 0, 0);
         fault("warM 1", 0, 0);
         fault("warm", 4, 0);
