@@ -2,13 +2,19 @@
 final class Due {
     private int wrong = 0;
     private int asked = 0;
+    private String sentence = "";
+
+    /** What the document says, of which the answers from here on are a test. */
+    void says(String words) {
+        sentence = words.isEmpty() ? "" : "[" + words + "] ";
+    }
 
     void is(String call, long got, long want) {
         asked++;
         if (got != want) {
             wrong++;
             if (wrong <= 50) {
-                System.out.println(call + " answered " + got + ", due is " + want);
+                System.out.println(sentence + call + " answered " + got + ", due is " + want);
             }
         }
     }
@@ -39,6 +45,15 @@ final class Due {
         if (wrong != 0) {
             System.exit(1);
         }
+    }
+
+    /** A new yard under a book, which must be a good one. */
+    static GasYard under(String book) {
+        GasYard yard = new GasYard();
+        if (book(yard, book) < 0) {
+            throw new IllegalArgumentException("not a book: " + book);
+        }
+        return yard;
     }
 
     /** Puts a text on an empty tape: whole feeds, then the end. */
