@@ -622,36 +622,38 @@ public final class GasYard {
 
         /** How many CLAUSES the text has, or -2 - its FAULT. */
         int readInto(Rules into) {
+            begin(into);
+            int clauses = 0;
+            boolean more = !isAtEnd();
+            for (int turn = 0; turn < MOST_BYTES && more; turn++) {
+                readClause(into);
+                clauses++;
+                more = fault == 0 && !isAtEnd() && takesSemicolon();
+            }
+            return fault == 0 ? clauses : -2 - fault;
+        }
+
+        private void begin(Rules into) {
             at = 0;
             fault = 0;
             for (int word = 0; word < WORDS; word++) {
                 seen[word] = false;
             }
             into.asWithout();
-            skipBlanks();
-            int clauses = text.at(at) == NONE ? 0 : readClauses(into);
-            return fault == 0 ? clauses : -2 - fault;
         }
 
-        private int readClauses(Rules into) {
-            int clauses = 0;
-            for (int turn = 0; turn < MOST_BYTES; turn++) {
-                readClause(into);
-                if (fault != 0) {
-                    return clauses;
-                }
-                clauses++;
-                skipBlanks();
-                if (text.at(at) == NONE) {
-                    return clauses;
-                }
-                if (text.at(at) != ';') {
-                    blame(at, CANT_STAND);
-                    return clauses;
-                }
-                at++;
+        private boolean isAtEnd() {
+            skipBlanks();
+            return text.at(at) == NONE;
+        }
+
+        private boolean takesSemicolon() {
+            if (text.at(at) != ';') {
+                blame(at, CANT_STAND);
+                return false;
             }
-            return clauses;
+            at++;
+            return true;
         }
 
         private void readClause(Rules into) {

@@ -9,12 +9,15 @@ public final class EdgeBestTest {
         latestAlone();
         whatOfARow();
         zeroIsLet();
+        zeroBehindARowOfZeros();
+        flowOfNoBook();
         withoutSwitch();
         withoutPress();
         withoutOtherCars();
         unitsAsInATick();
         upToMax();
         warmthAndCooling();
+        warmthOfEachRowItsOwn();
         warmthOfTheAir();
         mostContent();
         waitingForTheCold();
@@ -134,6 +137,21 @@ public final class EdgeBestTest {
         best(empty, ask(1, 0, 1, 1), 0, 0, 0);
     }
 
+    private static void zeroBehindARowOfZeros() {
+        due.says("the first row by BANKS, also if none of the rows draws a unit and an earlier best() drew none");
+        GasYard yard = banks("warm 0", 1, 0, 1, 0);
+        yard.sensor(0, 0, true);
+        best(yard, ask(1, 0, 300, 2), 0, 1, 0, 1, 0);
+        yard.sensor(0, 0, false);
+        best(yard, ask(1, 0, 300, 2), 0, 0, 0, 0, 0);
+    }
+
+    private static void flowOfNoBook() {
+        due.says("units as in II: without any flow: 0 20");
+        GasYard yard = banks("warm 0", 1, 60, 1, 400);
+        best(yard, ask(1, 0, 300, 3), 60, 0, 20, 1, 20, 1, 20);
+    }
+
     private static void withoutSwitch() {
         due.says("without switch");
         GasYard yard = banks("flow 0 5;switch 500;warm 0", 100, 40000);
@@ -189,6 +207,14 @@ public final class EdgeBestTest {
         best(slow, ask(1, 0, 300, 3), 5, 0, 5, 0, 0, 0, 0);
         GasYard quick = banks("flow 0 500;warm 10;limit 20;cool 1", 100, 40000);
         best(quick, ask(1, 0, 300, 3), 15, 0, 5, 0, 5, 0, 5);
+    }
+
+    private static void warmthOfEachRowItsOwn() {
+        due.says("WARMTH as in (b), (c): of each row its own, from that of the AIR on");
+        GasYard yard = banks("flow 0 500;warm 10;limit 20;cool 2", 1, 6, 100, 40000);
+        best(yard, ask(1, 0, 300, 1), 5, 1, 5);
+        // 3 of BANK 0 leave 165, so 3 of BANK 1; 5 of BANK 1 leave 175, so 2 more, and none of BANK 0
+        best(yard, ask(1, 0, 300, 2), 7, 1, 5, 1, 2);
     }
 
     private static void warmthOfTheAir() {

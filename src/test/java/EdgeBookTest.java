@@ -15,6 +15,7 @@ public final class EdgeBookTest {
         flowNumbersAtTheirEnds();
         flowsRise();
         withoutWhatIsNotTold();
+        withoutWhatOlderBooksTold();
         blanksAlone();
         blanksBetween();
         digits();
@@ -213,6 +214,23 @@ public final class EdgeBookTest {
         }
         due.says("with a flow, 0 20 is not told");
         due.is("FLOW at 2", yard.flow(2), 0);
+    }
+
+    private static void withoutWhatOlderBooksTold() {
+        due.says("all as without, whatever BOOKS and FAULTS were ahead");
+        for (int books = 1; books <= 4; books++) {
+            GasYard yard = new GasYard();
+            for (int k = 0; k < books; k++) {
+                Due.book(yard, "flow 3 4;warm 90;cool 91;limit 92;press 93;switch 94");
+            }
+            due.is("a FAULT behind all of them", Due.book(yard,
+                    "flow 5 6;warm 80;cool 81;limit 82;press 83;switch 84;x"), -2 - (1 + 8 * 53));
+            due.is("blanks", Due.book(yard, " "), 0);
+            for (int k = 0; k < WORDS.length; k++) {
+                due.is(WORDS[k] + " behind " + books, yard.count(10 + k), WITHOUT[k]);
+            }
+            due.is("FLOW at 0 behind " + books, yard.flow(0), 20);
+        }
     }
 
     private static void blanksAlone() {
