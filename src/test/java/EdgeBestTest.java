@@ -244,10 +244,18 @@ public final class EdgeBestTest {
     }
 
     private static void waitingForTheCold() {
-        due.says("0 is let: a row that draws none in its first TICKS may be as good as any");
-        GasYard yard = banks("flow 0 500;warm 100;limit 15;cool 1", 100, 40000, 100, 40000);
-        yard.air(15);
-        best(yard, ask(1, 0, 300, 2), 0, 0, 0, 0, 0);
+        due.says("0 is let: a TICK at a BANK that gives none may be the way to the most CONTENT");
+        String book = "flow 394 50;warm 10;limit 20;cool 2";
+        // 5 leave 175 and a difference of 394; 2 more would leave one of 392, which gives none;
+        // a TICK without any leaves 163, and so lets 3
+        GasYard yard = banks(book, 100, 39950, 1, 0);
+        best(yard, ask(1, 0, 300, 3), 8, 0, 5, 1, 0, 0, 3);
+        best(yard, ask(1, 0, 300, 4), 9, 0, 5, 1, 0, 1, 0, 0, 4);
+        due.says("rows of n BANKS: no TICK without a BANK, or at one whose SENSOR is lost");
+        yard.sensor(0, 1, true);
+        best(yard, ask(1, 0, 300, 3), 7, 0, 5, 0, 2, 0, 0);
+        GasYard alone = banks(book, 100, 39950);
+        best(alone, ask(1, 0, 300, 3), 7, 0, 5, 0, 2, 0, 0);
     }
 
     private static void waitingForTheFlow() {
