@@ -10,17 +10,21 @@ final class Due {
     }
 
     void is(String call, long got, long want) {
+        is(call, String.valueOf(got), String.valueOf(want));
+    }
+
+    void is(String call, boolean got, boolean want) {
+        is(call, String.valueOf(got), String.valueOf(want));
+    }
+
+    void is(String call, String got, String want) {
         asked++;
-        if (got != want) {
+        if (!got.equals(want)) {
             wrong++;
             if (wrong <= 50) {
                 System.out.println(sentence + call + " answered " + got + ", due is " + want);
             }
         }
-    }
-
-    void is(String call, boolean got, boolean want) {
-        is(call, got ? 1 : 0, want ? 1 : 0);
     }
 
     /** Banks or cars: all that can be asked of number k, from what 0 on. */

@@ -29,6 +29,9 @@ public final class LanguageTest {
     /** Methods of BEST that call one another; their depth is carried as an argument. */
     private static final Set<String> RECURSIVE = Set.of("search", "drawAndGoOn");
 
+    /** The only methods that make an object, each at most as often as the document has BANKS and CARS. */
+    private static final Set<String> MAKERS = Set.of("bank", "car");
+
     public static void main(String[] args) throws Exception {
         face();
         insides();
@@ -173,6 +176,8 @@ public final class LanguageTest {
             String body = code.substring(head.end(), close);
             due.says("11, methods stay short");
             holds(head.group(1), body.split("\n").length <= 60);
+            due.says("12, what a run makes is kept small: what is needed again is made in constructors");
+            holds(head.group(1) + " makes no object", MAKERS.contains(head.group(1)) || !body.contains("new "));
             Set<String> called = calls.computeIfAbsent(head.group(1), name -> new TreeSet<>());
             Matcher call = Pattern.compile("\\b(\\w+)\\(").matcher(body);
             while (call.find()) {
